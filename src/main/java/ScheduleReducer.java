@@ -336,32 +336,36 @@ public final class ScheduleReducer {
     }
 
     private void carryOut(int t, int kind, int n) {
-        int own = turns * CELLS + VARIABLES + t;
-        int variable = turns * CELLS + n;
-        int lock = turns * LOCKS + n;
+        int cells = turns * CELLS;
+        int locks = turns * LOCKS;
+        int own = cells + VARIABLES + t;
         switch (kind) {
             case LOAD:
-                values[own] = values[variable];
+                values[own] = values[cells + n];
                 break;
             case STORE:
-                values[variable] = values[own];
+                values[cells + n] = values[own];
                 break;
             case SWAP:
                 int old = values[own];
-                values[own] = values[variable];
-                values[variable] = old;
+                values[own] = values[cells + n];
+                values[cells + n] = old;
                 break;
             case PLUS:
                 values[own] += n;
                 break;
             case TAKE:
-                holders[lock] = t;
+                holders[locks + n] = t;
                 break;
             default:
-                if (holders[lock] == t) {
-                    holders[lock] = NONE;
-                }
+                giveBack(locks + n, t);
                 break;
+        }
+    }
+
+    private void giveBack(int lock, int t) {
+        if (holders[lock] == t) {
+            holders[lock] = NONE;
         }
     }
 }

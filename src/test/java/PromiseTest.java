@@ -259,6 +259,8 @@ public final class PromiseTest {
     private static void canStick() {
         due("8 no locks", with(steps(LOAD, 0, STORE, 0), steps(SWAP, 0)).canStick(), false);
         due("8 its own lock", with(steps(TAKE, 0, TAKE, 0)).canStick(), true);
+        due("8 only the second thread", with(steps(), steps(TAKE, 1, TAKE, 1)).canStick(), true);
+        due("8 only the last thread", with(steps(), steps(), steps(TAKE, 1, TAKE, 1)).canStick(), true);
         due("8 given back between", with(steps(TAKE, 0, GIVE, 0, TAKE, 0)).canStick(), false);
         due("8 ends with the lock", with(steps(TAKE, 0)).canStick(), false);
         due("8 the other waits for ever", with(steps(TAKE, 0), steps(TAKE, 0)).canStick(), true);
