@@ -358,14 +358,10 @@ public final class ScheduleReducer {
                 holders[locks + n] = t;
                 break;
             default:
-                giveBack(locks + n, t);
+                if (holders[locks + n] == t) {
+                    holders[locks + n] = NONE;
+                }
                 break;
-        }
-    }
-
-    private void giveBack(int lock, int t) {
-        if (holders[lock] == t) {
-            holders[lock] = NONE;
         }
     }
 }
