@@ -32,6 +32,7 @@ public final class PromiseTest {
         eachStepKind();
         questionsChangeNothing();
         objectsAreApart();
+        readmeExample();
         System.out.println(wrong == 0 ? "all answers are as due" : wrong + " answers are not as due");
         if (wrong != 0) {
             System.exit(1);
@@ -444,5 +445,15 @@ public final class PromiseTest {
         due("apart length", one.length(0), 1);
         due("apart accumulator", one.accumulator(0, 0), 1);
         due("apart other", other.accumulator(0, 0), 5);
+    }
+
+    private static void readmeExample() {
+        int[] addOne = steps(LOAD, 0, PLUS, 1, STORE, 0);
+        ScheduleReducer r = with(addOne, addOne);
+        due("README schedules", r.schedules(), 20);
+        due("README classes", r.classes(), 4);
+        due("README canEnd", r.canEnd(0, 1), true);
+        due("README extreme", r.extreme(0, 1), 2);
+        due("README races", r.races(0), true);
     }
 }
